@@ -1,0 +1,34 @@
+import java.util.concurrent.Callable;
+
+/** Counts the answers that are not due, tells each, and ends the test. */
+final class Checks {
+    private int wrong;
+    private int made;
+
+    void due(String what, Object want, Callable<?> call) {
+        made++;
+        String got = answerOf(call);
+        if (!got.equals(String.valueOf(want))) {
+            wrong++;
+            if (wrong <= 50) {
+                System.out.println(what + " answered " + got + ", due is " + want);
+            }
+        }
+    }
+
+    /** The answer as a text, or throws. and the exception's name. */
+    static String answerOf(Callable<?> call) {
+        try {
+            return String.valueOf(call.call());
+        } catch (Exception e) {
+            return "throws." + e.getClass().getSimpleName();
+        }
+    }
+
+    void end() {
+        System.out.println(made + " checks, " + wrong + " of them wrong");
+        if (wrong != 0) {
+            System.exit(1);
+        }
+    }
+}
