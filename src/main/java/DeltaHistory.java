@@ -257,13 +257,21 @@ public final class DeltaHistory {
             return k >= 0 && k < count ? row[k] : NONE;
         }
 
-        boolean putIn(int before, int line) {
-            if (line < 1 || line > HIGHEST_LINE || count >= MOST_LINES || before < 0 || before > count) {
+        boolean append(int line) {
+            if (line < 1 || line > HIGHEST_LINE || count >= MOST_LINES) {
                 return false;
             }
-            System.arraycopy(row, before, row, before + 1, count - before);
-            row[before] = line;
+            row[count] = line;
             count++;
+            return true;
+        }
+
+        boolean putIn(int before, int line) {
+            if (before < 0 || before > count || !append(line)) {
+                return false;
+            }
+            System.arraycopy(row, before, row, before + 1, count - 1 - before);
+            row[before] = line;
             return true;
         }
 
@@ -275,10 +283,6 @@ public final class DeltaHistory {
             System.arraycopy(row, k + 1, row, k, count - k - 1);
             count--;
             return line;
-        }
-
-        boolean append(int line) {
-            return putIn(count, line);
         }
 
         boolean appendBytes(int word) {
@@ -387,7 +391,7 @@ public final class DeltaHistory {
             }
         }
 
-        private int addedLine(int k, int number) {
+        int addedLine(int k, int number) {
             if (kind[k] != ADD || number < 0 || number >= many[k]) {
                 return NONE;
             }
@@ -627,7 +631,8 @@ public final class DeltaHistory {
                 to.put(delta.kind[k]);
                 to.put(delta.place[k]);
                 to.put(delta.many[k]);
-                for (int n = 0; delta.kind[k] == ADD && n < delta.many[k]; n++) {
+                int addedLines = delta.kind[k] == ADD ? delta.many[k] : 0;
+                for (int n = 0; n < addedLines; n++) {
                     to.put(delta.addedLine(k, n));
                 }
             }
@@ -649,7 +654,7 @@ public final class DeltaHistory {
 
         private boolean readHeads(Bytes from, History into) {
             int count = from.take();
-            if (count > MOST_REVISIONS) {
+            if (count < 0 || count > MOST_REVISIONS) {
                 return false;
             }
             for (int k = 0; k < count; k++) {
