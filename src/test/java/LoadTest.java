@@ -90,10 +90,11 @@ public final class LoadTest {
         for (int n = 0; n < 20000; n++) {
             DeltaHistory x = history(random);
             DeltaHistory y = history(random);
-            if (x.size(false) != y.size(false)) {
+            int size = y.size(false);
+            if (x.size(false) != size) {
                 continue;
             }
-            for (int k = 0; k < y.size(false); k++) {
+            for (int k = 0; k < size; k++) {
                 x.corrupt(k, y.at(k, false));
             }
             CHECKS.due("load() of another's file", y.revisions(), x::load);
@@ -126,7 +127,8 @@ public final class LoadTest {
                 told.append(x.about(r, what)).append(' ');
             }
             x.checkOut(r);
-            for (int k = 0; k < x.lines(); k++) {
+            int lines = x.lines();
+            for (int k = 0; k < lines; k++) {
                 told.append(' ').append(x.line(k));
             }
             told.append('\n');

@@ -44,8 +44,12 @@ public final class PromiseTest {
     }
 
     private static String bytesOf(DeltaHistory x, boolean aside) {
+        return bytesOf(x, aside, x.size(aside));
+    }
+
+    private static String bytesOf(DeltaHistory x, boolean aside, int count) {
         StringBuilder told = new StringBuilder();
-        for (int k = 0; k < x.size(aside); k++) {
+        for (int k = 0; k < count; k++) {
             told.append(k == 0 ? "" : " ").append(x.at(k, aside));
         }
         return told.toString();
@@ -71,11 +75,13 @@ public final class PromiseTest {
         return told.toString();
     }
 
+    /** One call alone, since an object is good for 512. */
     private static void put(DeltaHistory x, int... lines) {
-        x.desk(0, 0, 0);
-        for (int line : lines) {
-            x.insert(x.lines(), line);
+        int[] words = new int[3];
+        for (int k = 0; k < lines.length; k++) {
+            words[k / 4] = words[k / 4] << 8 | lines[k];
         }
+        x.desk(words[0], words[1], words[2]);
     }
 
     /** Checks the desk's text in as user 0. */
@@ -276,7 +282,8 @@ public final class PromiseTest {
             x.insert(6, 60);
         }
         x.lock(0, 0);
-        String file = bytesOf(x, false);
+        String heads = bytesOf(x, false, 1 + 3 * 19);
+        int before = x.size(false);
         x.crashAfter(1);
         if (fits) {
             x.crashAfter(-1);
@@ -288,7 +295,8 @@ public final class PromiseTest {
         due("checkIn up to " + size, UNSUPPORTED, () -> x.checkIn(0, 0));
         due("revisions()", 19, x::revisions);
         due("its lock stays", 0, () -> x.about(0, 2));
-        due("its file stays", file, () -> bytesOf(x, false));
+        due("its file stays", heads, () -> bytesOf(x, false, 1 + 3 * 19));
+        due("its size stays", before, () -> x.size(false));
         due("nothing aside", 0, () -> x.size(true));
         due("its branches stay", 17, () -> x.about(0, 5));
         due("its crash stays", -2, () -> x.unlock(0, 0));
