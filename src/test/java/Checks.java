@@ -4,6 +4,12 @@ import java.util.concurrent.Callable;
 final class Checks {
     private int wrong;
     private int made;
+    private String sentence = "";
+
+    /** The document's sentence that the checks behind this call hold the program to. */
+    void says(String words) {
+        sentence = "\"" + words + "\": ";
+    }
 
     void due(String what, Object want, Callable<?> call) {
         made++;
@@ -11,7 +17,7 @@ final class Checks {
         if (!got.equals(String.valueOf(want))) {
             wrong++;
             if (wrong <= 50) {
-                System.out.println(what + " answered " + got + ", due is " + want);
+                System.out.println(sentence + what + " answered " + got + ", due is " + want);
             }
         }
     }

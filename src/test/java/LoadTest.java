@@ -18,7 +18,7 @@ public final class LoadTest {
     }
 
     /** All texts of lines 1 .. 3 of up to so many lines. */
-    private static List<List<Integer>> texts(int most) {
+    static List<List<Integer>> texts(int most) {
         List<List<Integer>> texts = new ArrayList<>();
         texts.add(List.of());
         for (int k = 0; k < texts.size(); k++) {
