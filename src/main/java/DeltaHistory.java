@@ -450,10 +450,11 @@ public final class DeltaHistory {
 
         /** The next byte; NONE behind the last one, which is no number that a file may have anywhere. */
         int take() {
-            int b = byteAt(position);
-            if (b != NONE) {
-                position++;
+            if (!has(position)) {
+                return NONE;
             }
+            int b = row[position];
+            position++;
             return b;
         }
     }

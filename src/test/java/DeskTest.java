@@ -2,6 +2,7 @@
 public final class DeskTest extends Sentences {
     public static void main(String[] args) {
         newObject();
+        newObjectBesideAnother();
         deskTakesBytes();
         deskLeavesZerosOut();
         deskRefuses();
@@ -32,6 +33,25 @@ public final class DeskTest extends Sentences {
         due("lock(0, 0)", OUT, () -> x.lock(0, 0));
         due("checkIn(0, NONE), no crash", 0, () -> x.checkIn(0, NONE));
         due("revisions()", 1, x::revisions);
+    }
+
+    private static void newObjectBesideAnother() {
+        says("No revisions, an empty desk, the file 0, nothing aside, no crash set.");
+        DeltaHistory used = withAll();
+        DeltaHistory x = new DeltaHistory();
+        due("revisions() beside one with two", 0, x::revisions);
+        due("lines() beside one with two", 0, x::lines);
+        due("step(0, 0) beside one with a delta", NONE, () -> x.step(0, 0));
+        due("the file beside one of 15 bytes", "0", () -> bytesOf(x, false));
+        due("size(true) beside one with bytes aside", 0, () -> x.size(true));
+        put(x, 50);
+        due("checkIn beside one with a crash that is set", 0, () -> x.checkIn(0, NONE));
+        due("compare(NONE)", 1, () -> x.compare(NONE));
+        due("the other's desk", "4 3", () -> deskOf(used));
+        due("the other's delta", "(0 0 2)(1 2 1 4)", () -> stepsOf(used));
+        due("the other's file", "2 0 3 2 1 0 0 1 1 1 1 2 2 1 3", () -> bytesOf(used, false));
+        due("the other's bytes aside", "2 0 0", () -> bytesOf(used, true));
+        due("the other's crash", CRASHED, () -> used.unlock(1, 0));
     }
 
     /** A word with this byte at place k of its four, the highest first. */

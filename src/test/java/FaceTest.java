@@ -51,10 +51,10 @@ public final class FaceTest {
         Set<String> fields = new TreeSet<>();
         for (Field field : type.getDeclaredFields()) {
             if (!Modifier.isPrivate(field.getModifiers())) {
-                fields.add(Modifier.toString(field.getModifiers()) + " " + field.getName());
+                fields.add(Modifier.toString(field.getModifiers()) + " " + field.getType() + " " + field.getName());
             }
         }
-        checks.due("the constants", "[public static final CRASHED, public static final NONE]", () -> fields);
+        checks.due("the constants", "[public static final int CRASHED, public static final int NONE]", () -> fields);
         Constructor<?>[] constructors = type.getDeclaredConstructors();
         checks.due("the constructors", "[public DeltaHistory()]", () -> Arrays.toString(constructors));
         for (Class<?> inside : type.getDeclaredClasses()) {

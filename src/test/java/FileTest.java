@@ -9,6 +9,7 @@ public final class FileTest extends Sentences {
         corruptKeepsRevisions();
         corruptOut();
         corruptOfNoByte();
+        loadReadsTheFile();
         loadTakes();
         loadLeavesTheRest();
         loadAgain();
@@ -87,6 +88,29 @@ public final class FileTest extends Sentences {
         for (int b : new int[] {256, 257, 1000, -1, -128, LOW, HIGH}) {
             changesNothing("corrupt(0, " + b + ")", ARGUMENT, Sentences::withAll, x -> corrupted(x, 0, b));
         }
+    }
+
+    private static void loadReadsTheFile() {
+        says("Reads the file: if it is one that can be written for some revisions (any that can come about, with any"
+            + " texts, users and locks), these are the revisions from now on, and it answers how many; otherwise"
+            + " nothing changes, and it answers NONE.");
+        DeltaHistory x = withFirst(5);
+        x.lock(1, 0);
+        put(x, 6);
+        x.crashAfter(17);
+        due("a checkIn that is whole aside", CRASHED, () -> x.checkIn(1, 0));
+        due("how much is aside", 17, () -> x.size(true));
+        due("the file is read, not aside", 1, x::load);
+        due("revisions()", 1, x::revisions);
+        due("its lock", 1, () -> x.about(0, 2));
+        due("aside stays", 17, () -> x.size(true));
+        x.corrupt(5, 100);
+        due("though aside can be read", NONE, x::load);
+        due("its text", "5", () -> textOf(x, 0));
+        x.corrupt(5, 99);
+        due("a file that can be written again", 1, x::load);
+        due("its text", "99", () -> textOf(x, 0));
+        due("the file stays", "1 0 0 2 1 99", () -> bytesOf(x, false));
     }
 
     private static void loadTakes() {

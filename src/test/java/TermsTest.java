@@ -1,15 +1,22 @@
+import java.util.ArrayList;
+import java.util.Arrays;
 import java.util.List;
+import java.util.Random;
 import java.util.function.Function;
 
 /** The document's sentences before its promises, each with the edges that it names. */
 public final class TermsTest extends Sentences {
     public static void main(String[] args) {
+        keptInOneFile();
+        usersLockAndCheckIn();
+        cutOffAtAnyByte();
         calls();
         lines();
         texts();
         deskAtFirst();
         users();
         revisions();
+        eachHas();
         parent();
         locks();
         firstName();
@@ -17,6 +24,7 @@ public final class TermsTest extends Sentences {
         branch();
         branchesOfBranches();
         trunkAndHead();
+        deltaFromOneToTheOther();
         mostInCommon();
         equalLines();
         leftOut();
@@ -40,6 +48,78 @@ public final class TermsTest extends Sentences {
         firstNamedIsThrown();
         crashedIsMinusTwo();
         CHECKS.end();
+    }
+
+    private static void keptInOneFile() {
+        says("Keeps the revisions of a text of lines in one file: the newest one of the trunk whole, older ones and"
+            + " those of branches as what has to be left out and added");
+        DeltaHistory x = withFirst(1, 2, 3);
+        add(x, 0, 1, 3, 4);
+        add(x, 0, 1, 2, 3, 5);
+        add(x, 1, 3, 4);
+        due("the file", "4 0 0 0 1 0 0 1 0 0 2 0 0" + " 2 1 1 1 2 0 2 1" + " 1 1 0 1 1" + " 1 1 3 1 5" + " 2 3 4",
+            () -> bytesOf(x, false));
+        String[] texts = {"1 2 3", "1 3 4", "1 2 3 5", "3 4"};
+        DeltaHistory y = withFile(bytes(bytesOf(x, false)));
+        due("another object that has this file alone", 4, y::load);
+        for (int r = 0; r < 4; r++) {
+            int each = r;
+            due("the text of " + each, texts[each], () -> textOf(x, each));
+            due("the other's text of " + each, texts[each], () -> textOf(y, each));
+        }
+    }
+
+    private static int[] bytes(String told) {
+        return Arrays.stream(told.split(" ")).mapToInt(Integer::parseInt).toArray();
+    }
+
+    private static void usersLockAndCheckIn() {
+        says("users lock revisions and check new ones in");
+        DeltaHistory x = withFirst();
+        for (int user = 0; user < 4; user++) {
+            int each = user;
+            put(x, 10 + each);
+            due("lock of user " + each, 5 + 8 * each, () -> x.lock(each, 0));
+            due("checkIn of user " + each, each + 1, () -> x.checkIn(each, 0));
+            due("who checked it in", each, () -> x.about(each + 1, 1));
+            due("its text", String.valueOf(10 + each), () -> textOf(x, each + 1));
+        }
+    }
+
+    /** Whatever the byte, the file is the old one or the new one, and load finds the revisions that it tells. */
+    private static void cutOffAtAnyByte() {
+        says("every change is written to a file aside, which may be cut off by a crash at any byte, and then takes the"
+            + " file's place at once");
+        cutOff("lock", x -> x.lock(3, 1));
+        cutOff("unlock", x -> x.unlock(1, 0));
+        cutOff("checkIn", x -> x.checkIn(1, 0));
+    }
+
+    private static DeltaHistory beforeCutOff() {
+        DeltaHistory x = withFirst(1, 2, 3);
+        add(x, 0, 1, 3);
+        x.lock(1, 0);
+        put(x, 9, 3);
+        return x;
+    }
+
+    private static void cutOff(String what, Function<DeltaHistory, Integer> change) {
+        DeltaHistory done = beforeCutOff();
+        String before = bytesOf(done, false);
+        change.apply(done);
+        String after = bytesOf(done, false);
+        int size = done.size(false);
+        for (int n = 0; n <= size + 2; n++) {
+            DeltaHistory x = beforeCutOff();
+            x.crashAfter(n);
+            change.apply(x);
+            String of = what + ", crash after " + n;
+            String file = n <= size ? before : after;
+            int count = n <= size ? 2 : done.revisions();
+            due(of + ": the file", file, () -> bytesOf(x, false));
+            due(of + ": revisions()", count, x::revisions);
+            due(of + ": load()", count, x::load);
+        }
     }
 
     private static void calls() {
@@ -148,6 +228,34 @@ public final class TermsTest extends Sentences {
             bytes[1 + 3 * k] = k;
         }
         return bytes;
+    }
+
+    private static void eachHas() {
+        says("Each has a text, a user, a PARENT (the first one none: -1), perhaps a LOCK (a user), and a NAME, a row of"
+            + " numbers.");
+        DeltaHistory x = new DeltaHistory();
+        put(x, 1);
+        x.checkIn(3, NONE);
+        x.lock(2, 0);
+        put(x, 1, 2);
+        x.checkIn(2, 0);
+        x.lock(0, 0);
+        put(x);
+        x.checkIn(0, 0);
+        x.lock(1, 2);
+        String[] texts = {"1", "1 2", ""};
+        int[] users = {3, 2, 0};
+        int[] parents = {NONE, 0, 0};
+        int[] locks = {NONE, NONE, 1};
+        String[] names = {"1.1", "1.2", "1.1.1.1"};
+        for (int r = 0; r < 3; r++) {
+            int each = r;
+            due("the text of " + each, texts[each], () -> textOf(x, each));
+            due("the user of " + each, users[each], () -> x.about(each, 1));
+            due("the parent of " + each, parents[each], () -> x.about(each, 0));
+            due("the lock of " + each, locks[each], () -> x.about(each, 2));
+            due("the name of " + each, names[each], () -> nameOf(x, each));
+        }
     }
 
     private static void parent() {
@@ -266,6 +374,77 @@ public final class TermsTest extends Sentences {
         return lines;
     }
 
+    /** The steps make B out of A, and leave no more out than the lines that the two don't have in common. */
+    private static void deltaFromOneToTheOther() {
+        says("THE DELTA from a text A to a text B");
+        Random random = new Random(18);
+        for (int n = 0; n < 500; n++) {
+            int spread = 2 + random.nextInt(11);
+            int[] a = anyText(random, spread);
+            int[] b = anyText(random, spread);
+            DeltaHistory x = withFirst(a);
+            put(x, b);
+            x.compare(0);
+            String of = " of the delta from " + Arrays.toString(a) + " to " + Arrays.toString(b);
+            due("what the steps make" + of, Arrays.toString(b), () -> madeBySteps(x, a).toString());
+            due("how many are left out" + of, a.length - inCommon(a, b), () -> leftOutBySteps(x));
+        }
+    }
+
+    private static int[] anyText(Random random, int spread) {
+        return random.ints(random.nextInt(13), 1, spread).toArray();
+    }
+
+    private static List<Integer> madeBySteps(DeltaHistory x, int[] a) {
+        List<Integer> made = new ArrayList<>();
+        int passed = 0;
+        for (int k = 0; x.step(k, 0) != NONE; k++) {
+            for (int place = x.step(k, 1); passed < place; passed++) {
+                made.add(a[passed]);
+            }
+            int many = x.step(k, 2);
+            if (x.step(k, 0) == 0) {
+                passed += many;
+            } else {
+                for (int n = 0; n < many; n++) {
+                    made.add(x.step(k, 3 + n));
+                }
+            }
+        }
+        for (; passed < a.length; passed++) {
+            made.add(a[passed]);
+        }
+        return made;
+    }
+
+    private static int leftOutBySteps(DeltaHistory x) {
+        int many = 0;
+        for (int k = 0; x.step(k, 0) != NONE; k++) {
+            many += x.step(k, 0) == 0 ? x.step(k, 2) : 0;
+        }
+        return many;
+    }
+
+    /** Tries every choice of A's lines. */
+    private static int inCommon(int[] a, int[] b) {
+        int most = 0;
+        for (int choice = 0; choice < 1 << a.length; choice++) {
+            int j = 0;
+            int found = 0;
+            for (int i = 0; i < a.length; i++) {
+                if ((choice >> i & 1) != 0) {
+                    while (j < b.length && b[j] != a[i]) {
+                        j++;
+                    }
+                    found += j < b.length ? 1 : 0;
+                    j++;
+                }
+            }
+            most = Math.max(most, found);
+        }
+        return most;
+    }
+
     private static void mostInCommon() {
         says("let L(i, j) be the most lines that what is left of A behind its first i lines and what is left of B"
             + " behind its first j have in common, in order");
@@ -287,7 +466,9 @@ public final class TermsTest extends Sentences {
     }
 
     private static void equalLines() {
-        says("while both have lines left, and these first ones are equal, both are passed");
+        says("From i = j = 0 on: while both have lines left, and these first ones are equal, both are passed");
+        deltaIs(row(1, 2, 1), row(1), "(0 1 2)");
+        deltaIs(row(1), row(1, 2, 1), "(1 1 2 2 1)");
         deltaIs(TWELVE, TWELVE, "");
         deltaIs(row(1, 1, 2), row(1, 2), "(0 1 1)");
         deltaIs(row(1, 2), row(1, 1, 2), "(1 1 1 1)");
@@ -369,13 +550,15 @@ public final class TermsTest extends Sentences {
     }
 
     private static void fileBodies() {
-        says("of the head how many lines its text has, and the lines; of any other one how many steps, and the steps,"
-            + " of the delta that makes its text: of the trunk from the text of its next, of a branch from that of its"
-            + " parent");
+        says("then for each, by its number: of the head how many lines its text has, and the lines; of any other one"
+            + " how many steps, and the steps, of the delta that makes its text: of the trunk from the text of its next,"
+            + " of a branch from that of its parent.");
         DeltaHistory x = withFirst(1, 2);
         add(x, 0, 2, 3);
         due("the first from its next", "2 0 0 0 1 0 0 2 1 0 1 1 0 1 1 2 2 3", () -> bytesOf(x, false));
         add(x, 0, 4);
+        due("the head at its number, before a branch", "3 0 0 0 1 0 0 1 0 0" + " 2 1 0 1 1 0 1 1" + " 2 2 3"
+            + " 2 0 0 2 1 2 1 4", () -> bytesOf(x, false));
         add(x, 2, 4, 5);
         add(x, 1);
         due("a branch's from their parents, a head without lines, and the trunk from it",
@@ -430,7 +613,7 @@ public final class TermsTest extends Sentences {
     }
 
     private static void asideIsEmptiedBefore() {
-        says("(which is emptied before)");
+        says("it writes the file as it is to be to the file ASIDE (which is emptied before), byte by byte");
         DeltaHistory x = withFirst(7, 8);
         int[] crashes = {5, 2, 7, 0};
         String[] asides = {"1 0 0 2 2", "1 0", "1 0 0 2 2 7 8", ""};
@@ -487,7 +670,7 @@ public final class TermsTest extends Sentences {
             String of = what + ", crash after " + n;
             boolean isDone = n > bytes.length;
             due(of, n <= bytes.length + 1 ? CRASHED : answer, () -> change.apply(x));
-            due(of + ": aside", isDone ? "" : String.join(" ", java.util.Arrays.copyOf(bytes, n)),
+            due(of + ": aside", isDone ? "" : String.join(" ", Arrays.copyOf(bytes, n)),
                 () -> bytesOf(x, true));
             due(of + ": the file", isDone ? after : before, () -> bytesOf(x, false));
             due(of + ": revisions()", Integer.parseInt((isDone ? after : before).substring(0, 1)), x::revisions);
@@ -606,8 +789,19 @@ public final class TermsTest extends Sentences {
     }
 
     private static void crashedIsMinusTwo() {
-        says("The constants: CRASHED = -2");
+        says("The constants: CRASHED = -2: A change met a crash.");
         due("CRASHED", -2, () -> DeltaHistory.CRASHED);
         due("NONE", -1, () -> DeltaHistory.NONE);
+        DeltaHistory x = new DeltaHistory();
+        x.crashAfter(1);
+        due("the first checkIn", DeltaHistory.CRASHED, () -> x.checkIn(0, DeltaHistory.NONE));
+        due("without a crash", 0, () -> x.checkIn(0, DeltaHistory.NONE));
+        x.crashAfter(6);
+        due("lock, done", DeltaHistory.CRASHED, () -> x.lock(0, 0));
+        x.crashAfter(5);
+        due("unlock, not done", DeltaHistory.CRASHED, () -> x.unlock(0, 0));
+        x.crashAfter(10);
+        due("checkIn, done", DeltaHistory.CRASHED, () -> x.checkIn(0, 0));
+        due("revisions()", 2, x::revisions);
     }
 }
