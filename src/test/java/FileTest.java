@@ -17,6 +17,7 @@ public final class FileTest extends Sentences {
         loadAnyThatCanComeAbout();
         loadOfWrongHeads();
         loadOfWrongSizes();
+        loadBehindTheGreatestFile();
         loadOfStepsThatCannotBeMade();
         loadOfStepsThatAreNotTheDelta();
         loadOtherwise();
@@ -231,6 +232,24 @@ public final class FileTest extends Sentences {
         DeltaHistory x = new DeltaHistory();
         x.corrupt(0, 1);
         due("one revision in one byte", NONE, x::load);
+    }
+
+    /** 255 is right nowhere, and where it tells how many, it leads behind the last byte that there can be. */
+    private static void loadBehindTheGreatestFile() {
+        says("if it is one that can be written for some revisions");
+        DeltaHistory x = full();
+        for (int k = 0; k < 400; k++) {
+            int each = k;
+            if (each % 100 == 0) {
+                x = full();
+            }
+            DeltaHistory with = x;
+            int was = with.at(each, false);
+            with.corrupt(each, 255);
+            due("load() of 400 bytes with byte " + each + " = 255", NONE, with::load);
+            with.corrupt(each, was);
+        }
+        due("load() with all as it was", 20, x::load);
     }
 
     private static void loadOfStepsThatCannotBeMade() {
